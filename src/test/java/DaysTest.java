@@ -130,13 +130,21 @@ public final class DaysTest {
     is(x, 1, 0, 11, 1, 0);
     is(x, 2, -1, 10, 0, 0);
     is(x, 3, 0, 12, 0, 0);
-    // Not done: the steps behind it are not even tried.
+    Check.due("cuts", x.count(2), 1);
+    x.one(30, 0, 12, 0);
+    x.days(6);
+    Check.due("held again", x.oneIs(0, 3), 12);
+    Check.due("cuts ahead of the step stay", x.count(2), 1);
+    // By the text she holds on day 6, but comes on day 24, whose rest by 8 is 0.
     x = pair(30, 0);
     Check.text(x, 0, "y*(d>0)");
-    x.list(1, 1, 1);
     x.day(6);
     x.days(1);
-    Check.due("held by the granny", x.oneIs(1, 3), 10);
+    is(x, 1, 0, 10, 0, 0);
+    x.day(24);
+    x.days(1);
+    is(x, 0, -1, 12, 0, 0);
+    is(x, 1, 0, 12, 0, 0);
   }
 
   private static void gives() {

@@ -14,7 +14,7 @@ public final class ImagesTest {
     Check.text(x, 0, "y+1");
     Check.text(x, 1, "s*2");
     Check.feed(x, "o+d");
-    x.tell(2);
+    x.tell(6);
     x.tell(99);
     x.sheet(0, 8, 2);
     x.voice(1, 1, 5);
@@ -44,7 +44,7 @@ public final class ImagesTest {
     x.loose(3);
     x.untell(0);
     x.text(1);
-    Check.text(x, 1, "3");
+    Check.text(x, 1, "1");
     x.check();
     x.tell(5);
     x.tell(5);
@@ -79,7 +79,7 @@ public final class ImagesTest {
   private static void theTape(ApronStrings x) {
     int told = x.told(1);
     Check.due("told(1) stays", told, 2);
-    Check.due("what waits", x.check(), 1);
+    Check.due("what waits", x.check(), 2);
     Check.due("the tape", x.text(1), 1);
     Check.due("is o+d", x.law(1, 0, 3, 4), 7);
     Check.due("restore()", x.restore(), 77);

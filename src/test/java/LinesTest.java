@@ -70,9 +70,22 @@ public final class LinesTest {
     Check.about("21");
     Check.due("a string within a cell", end.knot(0), 63);
     Check.due("a string within a cell", end.knot(1), 1);
+    end = new ApronStrings();
+    end.one(0, -1, 0, 0);
+    end.one(0, 0, 0, 0);
+    end.one(0, -1, 7, 0);
+    end.one(0, 2, 7, 0);
+    Check.due("of 0 and 7 the least", end.knot(0), 0);
+    end.cut(3);
+    Check.due("at 0 alone", end.knot(1), 1);
   }
 
   private static void crossing(int a, int b, int c, int d, int want) {
+    oneWay(a, b, c, d, want);
+    oneWay(c, d, a, b, want);
+  }
+
+  private static void oneWay(int a, int b, int c, int d, int want) {
     ApronStrings x = new ApronStrings();
     x.one(0, -1, a, 0);
     x.one(0, 0, b, 0);

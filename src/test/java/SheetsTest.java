@@ -187,6 +187,11 @@ public final class SheetsTest {
     x.sheet(2, 32, 0);
     Check.due("no numbers", x.judge(2), 0);
     x = new ApronStrings();
+    x.one(0, -1, 0, 0);
+    x.one(0, -1, 0, 0);
+    x.sheet(2, 32, 1);
+    Check.due("one number, two at 0", x.judge(2), 1);
+    x = new ApronStrings();
     x.sheet(0, 8, 3);
     Check.due("nobody", x.judge(0), 0);
   }

@@ -52,6 +52,16 @@ public final class TextsTest {
     Check.due("another one", Check.text(x, 1, "8"), 1);
     Check.due("in its place", x.law(1, 4, 0, 0), 8);
     Check.due("no fault is an error", x.told(1), 2);
+    Check.due("a fault within ( and !", Check.text(x, 1, "((!!+"), -14);
+    Check.due("leaves nothing open", Check.text(x, 1, "((!!(7))))"), -19);
+    Check.due("leaves nothing open", Check.text(x, 1, "((!!(7)))"), 1);
+    Check.due("law(1)", x.law(1, 4, 0, 0), 1);
+    Check.due("a longer one", Check.text(x, 1, "1111"), 1);
+    Check.due("is gone", Check.text(x, 1, "0+3"), 1);
+    Check.due("law(1)", x.law(1, 4, 0, 0), 3);
+    Check.due("a longer one", Check.text(x, 1, "12"), 1);
+    Check.due("is gone", Check.text(x, 1, "1"), 1);
+    Check.due("law(1)", x.law(1, 4, 0, 0), 1);
     String longest = "(s+1)*(s+1)*(s+1)*(s+1)*(s+1)*(s+1)*(s+1)*(s+1)*(s+1)*(s+11)";
     Check.due("sixty bytes", longest.length(), 60);
     Check.due("sixty bytes", Check.text(x, 1, longest), 1);
@@ -179,6 +189,10 @@ public final class TextsTest {
     worth("2|4", 1);
     worth("2&4", 1);
     worth("2&0", 0);
+    worth("0&2", 0);
+    worth("1&1", 1);
+    worth("0|1", 1);
+    worth("1|0", 1);
     worth("0|0", 0);
     worth("0|d", 1);
     worth("1|1&0", 1);

@@ -47,6 +47,7 @@ public final class VoicesTest {
     spoken(x, 4, 0, 5, 15, 50, 20, 10);
     spoken(x, 4, 1, 5, 30, 11, 50, 20, 10);
     spoken(x, 4, 2, 5, 28, 51, 12, 11, 50, 20, 10);
+    spoken(x, 4, 2, 6, 26, 51, 12, 11, 50, 20, 10);
     spoken(x, 4, 3, 5, 8, 21, 13, 11, 50, 20, 10);
   }
 
@@ -58,6 +59,9 @@ public final class VoicesTest {
     spoken(x, 3, 0, 5, 8, 10);
     spoken(x, 3, 2, 7, 3, 40, 12, 11, 10);
     spoken(x, 3, 2, -7, -9, 40, 12, 11, 10);
+    spoken(x, 3, 1, 7, 20, 11, 10);
+    spoken(x, 3, 3, 13, 2, 13);
+    spoken(x, 5, 0, 5, 10, 10);
     spoken(x, 5, 1, 5, -22, 60, 30, 11, 10);
     spoken(x, 5, 2, 5, -24, 12, 60, 30, 11, 10);
     spoken(x, 5, 3, 10, -3, 13);

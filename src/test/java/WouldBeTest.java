@@ -8,6 +8,7 @@ public final class WouldBeTest {
     spareForAndOdds();
     spareByLess();
     spareForNone();
+    spareForMost();
     freeFor();
     fits();
     onlyThought();
@@ -158,6 +159,23 @@ public final class WouldBeTest {
     Check.about("28");
     Check.due("odds", x.odds(1, 35, 0), 0);
     Check.due("odds", x.odds(1, 35, 1), 1);
+  }
+
+  /** She gives 90 to her children, and on day 11 her own mother goes 9 cells away from her. */
+  private static void spareForMost() {
+    Check.about("26");
+    ApronStrings x = still();
+    x.one(0, -1, 5, 0);
+    x.one(0, 0, 5, 0);
+    x.one(0, 1, 5, 0);
+    x.one(0, 1, 5, 0);
+    for (int place = 0; place < 5; place++) x.list(place, 2 + place % 2, 1);
+    x.list(5, 0, 1);
+    Check.text(x, 0, "1+2*(s>0)");
+    Check.text(x, 1, "9*(o>0|d<4)");
+    Check.due("n 11", x.spareFor(1, 11), 0);
+    Check.due("all that can be", x.spareFor(1, 12), 99);
+    Check.due("what it has stays", x.oneIs(1, 5), 0);
   }
 
   private static void freeFor() {
