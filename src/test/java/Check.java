@@ -33,6 +33,13 @@ final class Check {
     if (failed > 0 || passed == 0) System.exit(1);
   }
 
+  /** A new object in which nobody goes on any day but those whom a test lists. */
+  static ApronStrings still() {
+    ApronStrings x = new ApronStrings();
+    for (int place = 0; place < 6; place++) x.list(place, 7, 1);
+    return x;
+  }
+
   /** Feeds a whole text, eight bytes a call. */
   static int feed(ApronStrings x, String text) {
     int many = x.count(6);

@@ -15,16 +15,9 @@ public final class DaysTest {
     Check.end("DaysTest");
   }
 
-  /** Nobody goes on any day but those whom a test lists. */
-  private static ApronStrings still() {
-    ApronStrings x = new ApronStrings();
-    for (int place = 0; place < 6; place++) x.list(place, 7, 1);
-    return x;
-  }
-
   /** One at 10 with a child of the plainest KIND at 10 that goes up 2 a day, first of all. */
   private static ApronStrings pair(int km, int spare) {
-    ApronStrings x = still();
+    ApronStrings x = Check.still();
     x.one(km, -1, 10, 0);
     x.one(0, 0, 10, spare);
     x.list(0, 1, 1);
@@ -54,7 +47,7 @@ public final class DaysTest {
     is(x, 0, -1, 9, 0, 0);
     is(x, 1, 0, 8, 1, 0);
     // A child comes behind its mother, and a row of them behind one another.
-    x = still();
+    x = Check.still();
     x.one(0, -1, 10, 0);
     x.one(0, 0, 9, 0);
     x.one(0, 1, 7, 1);
@@ -110,7 +103,7 @@ public final class DaysTest {
     is(x, 1, 0, 11, 1, 0);
     Check.due("the day is over all the same", x.count(1), 1);
     // What was let out, cut and gone in the same step is undone with it.
-    x = still();
+    x = Check.still();
     x.one(0, -1, 10, 0);
     x.one(0, 0, 10, 1);
     x.one(10, 0, 10, 0);
@@ -149,7 +142,7 @@ public final class DaysTest {
 
   private static void gives() {
     Check.about("14, gives");
-    ApronStrings x = still();
+    ApronStrings x = Check.still();
     x.one(0, -1, 10, 0);
     x.one(20, 0, 10, 3);
     x.one(0, 1, 10, 0);
@@ -164,7 +157,7 @@ public final class DaysTest {
     is(x, 1, 0, 11, 0, 0);
     is(x, 2, 1, 14, 3, 0);
     // A boy gives as a clerk if m is above 4, and holds if not.
-    x = still();
+    x = Check.still();
     x.one(0, -1, 10, 0);
     x.one(55, 0, 10, 1);
     x.one(0, 1, 10, 0);
@@ -186,7 +179,7 @@ public final class DaysTest {
     x.days(1);
     is(x, 0, -1, 14, 0, 0);
     // A child's own string never is what it gives of: the pulled end is the child, whose own child has some.
-    x = still();
+    x = Check.still();
     x.one(0, -1, 10, 0);
     x.one(0, 0, 10, 0);
     x.one(0, 1, 10, 4);
@@ -200,7 +193,7 @@ public final class DaysTest {
   private static void byTexts() {
     Check.about("14, by texts");
     // What one does is found out as it is pulled: her string is let out by then.
-    ApronStrings x = still();
+    ApronStrings x = Check.still();
     x.one(0, -1, 10, 0);
     x.one(30, 0, 10, 2);
     x.one(0, 1, 10, 0);
@@ -232,7 +225,7 @@ public final class DaysTest {
 
   private static void onTheRoad() {
     Check.about("14, on the road");
-    ApronStrings x = still();
+    ApronStrings x = Check.still();
     x.one(57, -1, 61, 0);
     x.list(0, 0, 1);
     x.list(1, 0, 0);
@@ -240,7 +233,7 @@ public final class DaysTest {
     Check.due("stays at the end", x.oneIs(0, 3), 63);
     x.days(1);
     Check.due("goes back", x.oneIs(0, 3), 59);
-    x = still();
+    x = Check.still();
     x.one(57, -1, 2, 0);
     x.list(0, 0, 0);
     x.days(7);

@@ -15,15 +15,9 @@ public final class WouldBeTest {
     Check.end("WouldBeTest");
   }
 
-  private static ApronStrings still() {
-    ApronStrings x = new ApronStrings();
-    for (int place = 0; place < 6; place++) x.list(place, 7, 1);
-    return x;
-  }
-
   /** One of a KIND at 10, and her child at 10 that goes up 2 on every sixth day. */
   private static ApronStrings pair(int km) {
-    ApronStrings x = still();
+    ApronStrings x = Check.still();
     x.one(km, -1, 10, 0);
     x.one(0, 0, 10, 0);
     x.list(0, 1, 1);
@@ -112,7 +106,7 @@ public final class WouldBeTest {
 
   /** More to SPARE is not always better: on which day the copper is pulled tells what it does. */
   private static void spareByLess() {
-    ApronStrings x = still();
+    ApronStrings x = Check.still();
     x.one(60, -1, 10, 0);
     x.one(0, 0, 10, 0);
     x.list(0, 1, 1);
@@ -124,7 +118,7 @@ public final class WouldBeTest {
     x.list(1, 1, 0);
     Check.due("back on day 1", x.spareFor(1, 2), 1);
     // It goes one on day 0, and on day 1 nine times as far as its string was let out: less holds longer.
-    x = still();
+    x = Check.still();
     x.one(60, -1, 10, 0);
     x.one(0, 0, 10, 0);
     x.list(0, 1, 1);
@@ -139,7 +133,7 @@ public final class WouldBeTest {
   /** One that gives all away: seven children of its own KIND take what its string has. */
   private static void spareForNone() {
     Check.about("26");
-    ApronStrings x = still();
+    ApronStrings x = Check.still();
     x.one(10, -1, 0, 0);
     x.one(0, 0, 0, 0);
     x.one(0, 1, 0, 0);
@@ -164,7 +158,7 @@ public final class WouldBeTest {
   /** She gives 90 to her children, and on day 11 her own mother goes 9 cells away from her. */
   private static void spareForMost() {
     Check.about("26");
-    ApronStrings x = still();
+    ApronStrings x = Check.still();
     x.one(0, -1, 5, 0);
     x.one(0, 0, 5, 0);
     x.one(0, 1, 5, 0);
@@ -222,7 +216,7 @@ public final class WouldBeTest {
 
   private static void fits() {
     Check.about("29");
-    ApronStrings x = still();
+    ApronStrings x = Check.still();
     Check.due("nobody", x.fits(0, 0, 0), Check.BEYOND);
     x.one(3, -1, 10, 0);
     Check.due("missing", x.fits(0, 0, 0), Check.NONE);
@@ -257,7 +251,7 @@ public final class WouldBeTest {
     for (int i = 0; i < 24; i++) x.put(3, i, x.then(0, i));
     Check.due("24 days", x.fits(3, 0, 0), 1);
     // Of which KIND one is matters to those that pull it, too.
-    x = still();
+    x = Check.still();
     x.one(2, -1, 10, 0);
     x.one(0, 0, 10, 0);
     x.list(0, 1, 1);
