@@ -384,11 +384,7 @@ public final class ApronStrings {
       return refuse(BEYOND);
     }
     int answer = voices.begin(road.kind[one], one, road.m[one], voice, x);
-    if (voices.parted) {
-      return refuse(PARTED);
-    }
-    voices.keepTrace();
-    return answer;
+    return voices.parted ? refuse(PARTED) : answer;
   }
 
   public int body(int i) {
@@ -1276,8 +1272,6 @@ public final class ApronStrings {
     final int[] trace = new int[MOST_TRACED];
     int many;
     boolean parted;
-    private final int[] begun = new int[MOST_TRACED];
-    private int beginnings;
     private int kind;
     private int k;
     private int m;
@@ -1293,19 +1287,14 @@ public final class ApronStrings {
       return false;
     }
 
+    /** What began stays in THE TRACE even if the voice parts: that ERROR changes what is told there. */
     int begin(int kindOfOne, int number, int mOfOne, int voice, int x) {
       kind = kindOfOne;
       k = number;
       m = mOfOne;
       parted = false;
-      beginnings = 0;
+      many = 0;
       return speak(kind, voice, x, 0);
-    }
-
-    /** An ERROR changes nothing, so THE TRACE is kept only behind an answer. */
-    void keepTrace() {
-      System.arraycopy(begun, 0, trace, 0, MOST_TRACED);
-      many = beginnings;
     }
 
     private int speak(int from, int voice, int x, int depth) {
@@ -1313,9 +1302,9 @@ public final class ApronStrings {
       if (depth > DEEPEST || body == 0) {
         return 0;
       }
-      if (beginnings < MOST_TRACED) {
-        begun[beginnings] = body;
-        beginnings++;
+      if (many < MOST_TRACED) {
+        trace[many] = body;
+        many++;
       }
       return body < 20 ? speakMother(body, x, depth + 1) : speakOther(body, x, depth + 1);
     }

@@ -348,7 +348,6 @@ final class Plain {
   int images;
   Sheet[] sheets = new Sheet[4];
   List<Integer> trace = new ArrayList<>();
-  List<Integer> speaking = new ArrayList<>();
   int[] errors = new int[7];
 
   interface Act {
@@ -719,7 +718,7 @@ final class Plain {
     int k, m;
 
     void began(int body) {
-      if (speaking.size() < 30) speaking.add(body);
+      if (trace.size() < 30) trace.add(body);
     }
 
     int ties(int x) {
@@ -811,10 +810,8 @@ final class Plain {
       Mother who = kinds[w.people.get(one).kind];
       who.k = one;
       who.m = w.people.get(one).m;
-      speaking = new ArrayList<>();
-      int v = voice == 0 ? who.ties(x) : voice == 1 ? who.lets(x) : voice == 2 ? who.pulls(x) : who.parts(x);
-      trace = speaking;
-      return v;
+      trace = new ArrayList<>();
+      return voice == 0 ? who.ties(x) : voice == 1 ? who.lets(x) : voice == 2 ? who.pulls(x) : who.parts(x);
     });
   }
 

@@ -82,34 +82,57 @@ public final class VoicesTest {
     x.become(6, 68);
   }
 
+  /** THE TRACE behind PARTED is that of the voice that parted: what began, and no more. */
   private static void parted(ApronStrings x) {
     spoken(x, 2, 1, 5, -14, 30, 11, 10);
+    spoken(x, 7, 3, 5, Check.PARTED, 13);
     Check.about("30");
-    Check.due("m as its number", x.voice(7, 3, 5), Check.PARTED);
     Check.due("told(6)", x.told(6), 1);
-    // It is an ERROR, and so changes nothing.
-    traced(x, "the one ahead of PARTED", 30, 11, 10);
     x.become(7, 17);
-    Check.about("30");
-    Check.due("within a sum", x.voice(7, 3, 5), Check.PARTED);
+    spoken(x, 7, 3, 5, Check.PARTED, 21, 13);
     x.become(4, 44);
-    Check.due("arctic", x.voice(4, 3, 5), Check.PARTED);
-    traced(x, "the one ahead of PARTED", 30, 11, 10);
+    spoken(x, 4, 3, 5, Check.PARTED, 21, 13);
+    Check.about("30");
+    Check.due("told(6)", x.told(6), 3);
+    refused(x, "voice(4, 3, 5) that parted", 21, 13);
     x.become(4, 46);
+    spoken(x, 4, 3, 5, 8, 21, 13, 11, 50, 20, 10);
     x.become(7, 7);
     spoken(x, 7, 0, 1, 8, 10);
+    partedOnNew();
+  }
+
+  private static void partedOnNew() {
+    ApronStrings x = new ApronStrings();
+    traced(x, "none yet");
+    x.one(0, -1, 0, 0);
+    traced(x, "none yet");
+    spoken(x, 0, 3, 0, Check.PARTED, 13);
+    x.image();
+    spoken(x, 0, 1, 3, 6, 11, 10);
+    x.restore();
+    traced(x, "the one ahead of restore()", 11, 10);
+    spoken(x, 0, 3, 0, Check.PARTED, 13);
+    x.restore();
+    traced(x, "the one that parted ahead of restore()", 13);
   }
 
   private static void errors(ApronStrings x) {
     spoken(x, 2, 1, 5, -14, 30, 11, 10);
+    refused(x, "voice(2, 1, 5)", 30, 11, 10);
+    Check.about("31");
+    Check.due("body(-1)", x.body(-1), Check.NONE);
+    Check.due("body(30)", x.body(30), Check.NONE);
+    Check.due("body of the most", x.body(Integer.MAX_VALUE), Check.NONE);
+  }
+
+  /** No voice begins in a call that is BEYOND, so THE TRACE is that of the one ahead. */
+  private static void refused(ApronStrings x, String ahead, int... bodies) {
     Check.about("30");
     Check.due("voice 4", x.voice(0, 4, 0), Check.BEYOND);
     Check.due("voice -1", x.voice(0, -1, 0), Check.BEYOND);
     Check.due("nobody", x.voice(8, 0, 0), Check.BEYOND);
     Check.due("one -1", x.voice(-1, 0, 0), Check.BEYOND);
-    traced(x, "the one ahead of BEYOND", 30, 11, 10);
-    Check.due("body(-1)", x.body(-1), Check.NONE);
-    Check.due("body(30)", x.body(30), Check.NONE);
-    Check.due("body of the most", x.body(Integer.MAX_VALUE), Check.NONE);
+    traced(x, "BEYOND behind " + ahead, bodies);
   }
 }
