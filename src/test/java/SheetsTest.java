@@ -11,25 +11,21 @@ public final class SheetsTest {
     Check.end("SheetsTest");
   }
 
-  /** A number of a SHEET, found out by the cells of people who stand there; -1 if it is none of 0 to 63. */
+  /** A number of a SHEET, by what it makes a STRING have to SPARE; -1 if it is none of 0 to 99. Takes SHEET 3. */
   private static int number(ApronStrings x, int sheet, int i) {
     for (int bits = 8; bits <= 32; bits *= 2) {
-      x.sheet(3, bits, 1);
+      x.sheet(3, bits, 2);
       if (x.move(sheet, 0, 3, 0, 0) == 0) break;
     }
-    x.move(sheet, i, 3, 0, 1);
-    for (int cell = 0; cell < 64; cell++) {
-      x.restore();
-      x.one(0, -1, cell, 0);
-      if (x.judge(3) == 1) return cell;
-    }
-    return -1;
+    x.move(sheet, i, 3, 1, 1);
+    return x.reels(3) == 2 ? x.oneIs(1, 5) : -1;
   }
 
-  /** An object whose IMAGE has nobody, for number(), which takes the last SHEET. */
+  /** An object with one who has no STRING, and one who has, for number(). */
   private static ApronStrings fresh() {
     ApronStrings x = new ApronStrings();
-    x.image();
+    x.one(0, -1, 0, 0);
+    x.one(0, 0, 0, 0);
     return x;
   }
 
