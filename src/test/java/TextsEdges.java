@@ -317,6 +317,17 @@ final class TextsEdges {
         Check.due("the other use has none", x.untell(1 - use), 0);
       }
     });
+    Edge.of(11, "a FAULT with 5 open leaves none open", () -> {
+      for (String fault : new String[] {"(((((", "!!!!!", "((!!!s+", "(((((s)))*", "(((((+"}) {
+        ApronStrings x = new ApronStrings();
+        Check.due("a fault", Check.text(x, 1, fault) < -9 ? 1 : 0, 1);
+        Check.due("text", Check.text(x, 1, "(((((s)))))+!!!!!s"), 1);
+        Check.due("law", x.law(1, 3, 0, 0), 3);
+        Check.due("a fault", Check.text(x, 1, fault) < -9 ? 1 : 0, 1);
+        Check.due("text", Check.text(x, 1, "s"), 1);
+        Check.due("law", x.law(1, 3, 0, 0), 3);
+      }
+    });
     Edge.of(11, "a FAULT leaves a USE without a TEXT as it is", () -> {
       ApronStrings x = new ApronStrings();
       Check.text(x, 0, "2+");
@@ -483,14 +494,17 @@ final class TextsEdges {
   }
 
   private static void truths() {
-    Edge.of(13, "what is not 0 is true", () -> {
+    Edge.of(13, "1 or 0, what is not 0 being true", () -> {
       int[] any = {0, 1, -1, 2, 4, MIN, MAX};
       for (int a : any) {
-        told("!s", a, 0, a == 0 ? 1 : 0);
-        told("!!s", a, 0, a == 0 ? 0 : 1);
+        told("!s+4", a, 0, a == 0 ? 5 : 4);
+        told("!!s+4", a, 0, a == 0 ? 4 : 5);
         for (int b : any) {
-          told("s|o", a, b, a != 0 || b != 0 ? 1 : 0);
-          told("s&o", a, b, a != 0 && b != 0 ? 1 : 0);
+          told("(s|o)+4", a, b, a != 0 || b != 0 ? 5 : 4);
+          told("(s&o)+4", a, b, a != 0 && b != 0 ? 5 : 4);
+          told("(s<o)+4", a, b, a < b ? 5 : 4);
+          told("(s=o)+4", a, b, a == b ? 5 : 4);
+          told("(s>o)+4", a, b, a > b ? 5 : 4);
         }
       }
     });

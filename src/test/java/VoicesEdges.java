@@ -270,6 +270,16 @@ final class VoicesEdges {
       x.voice(7, 3, 1);
       traced(x, 13);
     });
+    Edge.of(30, "a voice() behind one that parted", () -> {
+      ApronStrings x = partedOnce();
+      Check.due("voice", x.voice(0, 0, 5), 5);
+      traced(x, 10);
+      Check.due("told(6)", x.told(6), 1);
+      Check.due("voice", x.voice(7, 3, 5), Check.PARTED);
+      Check.due("voice", x.voice(7, 2, 5), 17);
+      traced(x, 12, 11, 10);
+      Check.due("told(6)", x.told(6), 2);
+    });
     Edge.of(31, "a voice() that answers BEYOND leaves the one ahead", () -> {
       ApronStrings x = partedOnce();
       Check.due("voice", x.voice(8, 0, 1), Check.BEYOND);

@@ -277,6 +277,13 @@ final class WouldBeEdges {
       x.one(0, 0, 30, 0);
       x.list(0, 7, 1);
       Check.due("{7}", x.freeFor(0, 1), 128);
+      x = Check.still();
+      x.one(0, -1, 30, 0);
+      for (int i = 1; i < 4; i++) x.one(0, 0, 30, 0);
+      x.list(0, 1, 1);
+      x.list(1, 2, 1);
+      Check.due("{3}, not {1, 2}", x.freeFor(3, 2), 8);
+      Check.due("{1, 2}, for there is no other", x.freeFor(0, 2), 6);
     });
     Edge.of(27, "DAY beyond 9999", () -> {
       ApronStrings x = Check.still();
