@@ -12,6 +12,8 @@ final class DaysEdges {
     whatIsDone();
     gives();
     holds();
+    lastHeld();
+    toward();
     looseRefused();
     loose();
     draws();
@@ -429,6 +431,61 @@ final class DaysEdges {
       is(x, 2, 1, 10, 0, 0);
       is(x, 3, 2, 10, 0, 0);
       is(x, 4, 2, 10, 0, 0);
+    });
+  }
+
+  /** Eight of whom the last one holds, or one high up in the row; the others are of the plainest KIND. */
+  private static void lastHeld() {
+    Edge.of(14, "the seventh of PEOPLE is as ahead of it: let out, cut", () -> {
+      for (int km = 0; km <= 10; km += 10) {
+        ApronStrings x = Check.still();
+        for (int i = 0; i < 6; i++) x.one(0, i == 0 ? -1 : 0, 10, 0);
+        x.one(km, 0, 10, km == 0 ? 1 : 0);
+        x.one(30, 0, 10, 0);
+        for (int place = 0; place < 6; place++) x.list(place, 0, 1);
+        Check.due("days(6)", x.days(6), 0);
+        is(x, 0, -1, 10, 0, 0);
+        for (int i = 1; i < 8; i++) is(x, i, 0, 10, 0, i == 6 && km == 0 ? 1 : 0);
+      }
+    });
+    Edge.of(14, "the seventh and the eighth are where they were ahead of it", () -> {
+      ApronStrings x = Check.still();
+      for (int i = 0; i < 8; i++) x.one(i == 5 ? 30 : 0, i - 1, 10, 0);
+      for (int way = 0; way < 2; way++) {
+        x.list(way, 7, way);
+        Check.due("days(1)", x.days(1), 0);
+        for (int i = 0; i < 8; i++) is(x, i, i - 1, 10, 0, 0);
+      }
+    });
+    Edge.of(14, "the seventh gives to the eighth", () -> {
+      ApronStrings x = Check.still();
+      for (int i = 0; i < 6; i++) x.one(0, i == 0 ? -1 : 0, 10, 0);
+      x.one(20, 0, 10, 5);
+      x.one(0, 6, 10, 0);
+      x.list(0, 7, 1);
+      Check.text(x, 1, "1");
+      Check.due("days(1)", x.days(1), 0);
+      is(x, 6, 0, 10, 0, 4);
+      is(x, 7, 6, 11, 1, 0);
+    });
+  }
+
+  private static void toward() {
+    Edge.of(14, "a child comes toward ITS MOTHER, wherever the others are", () -> {
+      for (int way = 0; way < 2; way++) {
+        ApronStrings x = Check.still();
+        x.one(0, -1, 63 * way, 0);
+        x.one(0, -1, 63 - 63 * way, 0);
+        x.one(0, -1, 30, 0);
+        x.one(0, 2, 30, 0);
+        x.one(0, 3, 30, 0);
+        x.list(0, 2, 1 - way);
+        x.days(1);
+        for (int i = 2; i < 5; i++) Check.due("cell of " + i, x.oneIs(i, 3), way == 0 ? 32 : 28);
+        x.list(1, 4, way);
+        x.days(1);
+        for (int i = 2; i < 5; i++) Check.due("cell of " + i, x.oneIs(i, 3), 30);
+      }
     });
   }
 
