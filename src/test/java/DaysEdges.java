@@ -5,6 +5,7 @@ final class DaysEdges {
   static void all() {
     daysRefused();
     days();
+    cutsBeside();
     places();
     road();
     far();
@@ -84,6 +85,20 @@ final class DaysEdges {
       Check.due("none ahead", x.count(2), 0);
       Check.due("all in one step", x.days(1), 7);
       Check.due("strings", x.count(3), 0);
+    });
+  }
+
+  private static void cutsBeside() {
+    Edge.of(14, "CUTS, whatever DAY and z are", () -> {
+      for (int z : new int[] {Edge.LEAST, 0, 9998, 9999, 10000, Edge.MOST}) {
+        for (int day : new int[] {0, 9996}) {
+          ApronStrings x = pair(10, 0, "1");
+          x.seed(z);
+          x.day(day);
+          Check.due("days(1)", x.days(1), 1);
+          Check.due("count(2)", x.count(2), 1);
+        }
+      }
     });
   }
 
