@@ -94,8 +94,38 @@ public final class RandomRunsTest {
     }
   }
 
+  private char value() {
+    return "0123456789ysdsod".charAt(up(16));
+  }
+
+  /** As many parts as there is room for. */
+  private String longText() {
+    StringBuilder s = new StringBuilder().append(value());
+    for (int i = up(30); i > 0; i--) s.append("+-*/%|&+-*/%|&+-*/%|&<=>".charAt(up(24))).append(value());
+    return s.toString();
+  }
+
+  /** Each sign joins more closely than the one ahead, so that most waits; then ( and the like again. */
+  private String deepText() {
+    String[] signs = {"|", "&", "<=>", "+-", "*/%"};
+    StringBuilder s = new StringBuilder();
+    int open = 0;
+    for (int level = 1 + up(5); level > 0; level--) {
+      for (String of : signs) {
+        if (!rarely(5)) s.append(value()).append(of.charAt(up(of.length())));
+      }
+      if (rarely(9)) s.append('!');
+      if (level == 1) break;
+      s.append('(');
+      open++;
+    }
+    s.append(value());
+    for (int i = 0; i < open; i++) s.append(rarely(4) ? "+1)" : ")");
+    return s.toString();
+  }
+
   private String someText() {
-    StringBuilder s = new StringBuilder(ownText(1 + up(5)));
+    StringBuilder s = new StringBuilder(rarely(6) ? longText() : rarely(6) ? deepText() : ownText(1 + up(5)));
     if (rarely(4)) s.insert(up(s.length() + 1), "()!|&<=>+-*/%0123456789ysdo \u00e9\u0000".charAt(up(29)));
     if (rarely(6)) s.deleteCharAt(up(s.length()));
     if (s.length() > 60) s.setLength(60);

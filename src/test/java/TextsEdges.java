@@ -24,6 +24,8 @@ final class TextsEdges {
     quotients();
     truths();
     binding();
+    mostParts();
+    deepest();
   }
 
   private static ApronStrings filled(int bytes) {
@@ -328,6 +330,23 @@ final class TextsEdges {
         Check.due("law", x.law(1, 3, 0, 0), 3);
       }
     });
+    Edge.of(11, "a shorter one behind a longer one: nothing of that is left", () -> {
+      String[] longer = {"!s", "!!s", "s+9", "s-s*9", "(s|s)", "!(s&!s)"};
+      String[] shorter = {"5", "o", "o+0", "(o)", "!0*o"};
+      for (String first : longer) {
+        for (String then : shorter) {
+          ApronStrings x = new ApronStrings();
+          Check.text(x, 1, first);
+          x.image();
+          Check.due("text " + then, Check.text(x, 1, then), 1);
+          Check.due(then + " behind " + first, x.law(1, 1, 5, 0), 5);
+          x.image();
+          Check.text(x, 1, first);
+          x.restore();
+          Check.due(then + " restored behind " + first, x.law(1, 1, 5, 0), 5);
+        }
+      }
+    });
     Edge.of(11, "a FAULT leaves a USE without a TEXT as it is", () -> {
       ApronStrings x = new ApronStrings();
       Check.text(x, 0, "2+");
@@ -535,5 +554,79 @@ final class TextsEdges {
       told("9%4*2", 0, 0, 2);
       told("7/2*2", 0, 0, 6);
     });
+  }
+
+  private static void gives(String text, int s, int o, int d, int want) {
+    ApronStrings x = new ApronStrings();
+    Check.due("text " + text, Check.text(x, 1, text), 1);
+    Check.due(text + " of " + s + ", " + o + ", " + d, x.law(1, s, o, d), want);
+    x.image();
+    Check.text(x, 1, "0");
+    x.restore();
+    Check.due("restored, " + text + " of " + s + ", " + o + ", " + d, x.law(1, s, o, d), want);
+  }
+
+  /** TEXTS of which each byte is a NUMBER, a NAME or a sign, so that nothing longer can be worked out. */
+  private static void mostParts() {
+    Edge.of(13, "60 bytes, all of which count", () -> {
+      String most = "!s" + "+o".repeat(28) + "-d";
+      Check.due("bytes", most.length(), 60);
+      gives(most, 1, 0, -5, 5);
+      gives(most, 0, 0, -5, 6);
+      gives(most, 1, 1, 20, 8);
+      gives(most, 0, 1, 20, 9);
+      gives(most, 1, 1, 27, 1);
+      gives(most, 1, 1, 28, 0);
+    });
+    Edge.of(13, "1 to 30 NUMBERS and NAMES, each of which counts", () -> {
+      for (int many = 1; many <= 30; many++) {
+        for (int at = 0; at < many; at++) {
+          String text = "0+".repeat(at) + "d" + "+0".repeat(many - 1 - at);
+          gives(text, 9, 9, 4, 4);
+        }
+      }
+    });
+    Edge.of(13, "1 to 29 signs, each of which counts", () -> {
+      for (int many = 1; many <= 29; many++) {
+        for (int at = 0; at < many; at++) {
+          gives("s" + "+0".repeat(at) + "-o" + "+0".repeat(many - 1 - at), 8, 3, 9, 5);
+        }
+      }
+    });
+    Edge.of(13, "a TEXT of 60 bytes tells how far one GOES in days", () -> {
+      ApronStrings x = Check.still();
+      x.one(0, -1, 10, 0);
+      x.list(0, 0, 1);
+      Check.due("text", Check.text(x, 1, "0*s" + "+0".repeat(26) + "+5-!d"), 1);
+      Check.due("then", x.then(0, 1), 14);
+      x.days(1);
+      Check.due("at", x.oneIs(0, 3), 14);
+    });
+  }
+
+  /** As much as can be joined later than what stands behind it, ( within ( up to the four that 60 bytes leave. */
+  private static void deepest() {
+    String[] ways = {"0|1&0<0+1*", "0|1&1>1-1*", "0|1&0<0+9/", "0|1&0<1%2*", "0|1&0<0+", "0|1&0<1*", "0|1&0+1*"};
+    for (String ahead : ways) {
+      Edge.of(13, "( within ( behind " + ahead, () -> {
+        for (int open = 0; open <= 4; open++) {
+          truth((ahead + "(").repeat(open) + ahead + "d" + ")".repeat(open));
+        }
+      });
+    }
+    Edge.of(13, "! and ( by turns behind all that joins", () -> {
+      truth("0|1&0<0+1*!(0|1&0<0+1*!d)");
+      gives("0|1&0<0+1*!(0|1&0<0+1*!(0|1&0<0+1*!d))", 0, 0, 5, 0);
+      gives("0|1&0<0+1*!(0|1&0<0+1*!(0|1&0<0+1*!d))", 0, 0, 0, 1);
+      gives("7-(7-(7-(7-(7-d))))", 0, 0, 3, 4);
+      gives("9-8-7+(9-8-7+(9-8-7+(9-8-7+(9-8-7+d))))", 0, 0, 35, 5);
+    });
+  }
+
+  /** 1 if d is above 0, else 0. */
+  private static void truth(String text) {
+    gives(text, 9, 9, 5, 1);
+    gives(text, 9, 9, 1, 1);
+    gives(text, 9, 9, 0, 0);
   }
 }
