@@ -614,6 +614,17 @@ final class TextsEdges {
         }
       });
     }
+    Edge.of(13, "60 bytes in which 30 signs wait", () -> {
+      String text = "0|1&0<0+1*(".repeat(4) + "0|1&0<0+1*!d" + "))))";
+      Check.due("bytes", text.length(), 60);
+      gives(text, 9, 9, 0, 1);
+      gives(text, 9, 9, 5, 0);
+    });
+    Edge.of(11, "60 bytes in which 32 signs wait: they end too early", () -> {
+      due(1, "0|1&0<0+1*(".repeat(5) + "0|1&0", -70);
+      due(1, "0|1&0<0+1*(".repeat(5) + "0|1&(", -69);
+      due(1, "0|1&0<0+1*(".repeat(5) + "0|1&!", -69);
+    });
     Edge.of(13, "! and ( by turns behind all that joins", () -> {
       truth("0|1&0<0+1*!(0|1&0<0+1*!d)");
       gives("0|1&0<0+1*!(0|1&0<0+1*!(0|1&0<0+1*!d))", 0, 0, 5, 0);
